@@ -311,16 +311,19 @@ public final class Eggboxery {
     }
 
     public int congruences() throws UnsupportedOperationException {
+        needAll();
         needAtMost(Counts.MOST_FOR_CONGRUENCES);
         return counts.countCongruences();
     }
 
     public int parts() throws UnsupportedOperationException {
+        needAll();
         needAtMost(Counts.MOST_FOR_PARTS);
         return counts.countParts();
     }
 
     public int endomorphisms() throws UnsupportedOperationException {
+        needAll();
         needAtMost(Counts.MOST_FOR_ENDOMORPHISMS);
         if (things.generatorCount > Counts.MOST_GENERATORS_FOR_ENDOMORPHISMS) {
             throw new UnsupportedOperationException("there are too many generators");
@@ -485,7 +488,6 @@ public final class Eggboxery {
     }
 
     private void needAtMost(int most) {
-        needAll();
         if (elements.count > most) {
             throw new UnsupportedOperationException("there are too many elements");
         }
