@@ -44,7 +44,7 @@ public final class EquationsTest {
         Eggboxery x = Check.steps();
         String[] none = {"", "=", "x", "x=", "=x", "x==x", "x=y=z", "(x)", "(x=x", "x)=x", "(x=x)", "()=x", "x()=x",
             "^x=x", "x=^x", "x^^=x", "(^x)=x", "(x^^)=x", "(x)^^=x", "a=a", "xa=x", "x=xd", ")x(=x", "x^=(y", "x=y^^",
-            "((x)=x", "x(=)x", "^=x", "x=)"};
+            "((x)=x", "x(=)x", "^=x", "x=)", "x)(x=x", "x=x)(x"};
         for (String text : none) {
             Check.due("38 no equation " + text, failsOf(x, text), "throws." + UNSUPPORTED);
         }
