@@ -1782,7 +1782,7 @@ public final class Eggboxery {
             int found = 0;
             boolean isMore = true;
             for (int tries = 0; tries < MOST_TRIES && isMore; tries++) {
-                if (isEndomorphism(different)) {
+                if (isEndomorphism()) {
                     found++;
                 }
                 isMore = areNextImages(different);
@@ -1809,18 +1809,21 @@ public final class Eggboxery {
             return element >= 0 && element < images.length ? images[element] : 0;
         }
 
-        /** The images of the generators give all others; products with generators behind then tell of all. */
-        private boolean isEndomorphism(int different) {
+        /**
+         * The images of the generators give those of all others, each where its reduced word is met; where an element
+         * is met again its image must agree, and products with generators behind then tell of all.
+         */
+        private boolean isEndomorphism() {
             int total = total();
-            for (int element = different; element < total; element++) {
-                int last = elements.ofGenerator(elements.lastAt(element));
-                images[element] = elements.times(imageAt(elements.prefixAt(element)), imageAt(last));
-            }
             for (int element = 0; element < total; element++) {
                 for (int number = 0; number < elements.generatorCount(); number++) {
                     int generator = elements.ofGenerator(number);
-                    int due = elements.times(images[element], imageAt(generator));
-                    if (imageAt(elements.times(element, generator)) != due) {
+                    int made = elements.times(element, generator);
+                    int due = elements.times(imageAt(element), imageAt(generator));
+                    boolean isReduced = elements.prefixAt(made) == element && elements.lastAt(made) == number;
+                    if (isReduced && made >= 0 && made < images.length) {
+                        images[made] = due;
+                    } else if (imageAt(made) != due) {
                         return false;
                     }
                 }

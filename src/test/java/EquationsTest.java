@@ -234,6 +234,11 @@ public final class EquationsTest {
         Check.due("40 b the last new one from the right", sameOf("abcba=abcab", 'b'), false);
         Check.due("40 b what is between does not count", sameOf("abcdabc=abcdbdabc", 'b'), true);
         Check.due("40 b letters alone", sameOf("abcd=abc", 'b'), false);
+        // b comes last as a new one from both sides, and is all there is, or has another letter round it.
+        Check.due("40 b one has more letters", sameOf("b=aba", 'b'), false);
+        Check.due("40 b the other one has fewer", sameOf("aba=b", 'b'), false);
+        Check.due("40 b other letters round it", sameOf("aba=cbc", 'b'), false);
+        Check.due("40 b more letters further in", sameOf("cabac=cbc", 'b'), false);
     }
 
     private static void irreducibles() {

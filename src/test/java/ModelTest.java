@@ -242,6 +242,7 @@ public final class ModelTest {
             left.append(drawFrom(letters));
         }
         String right = draw(3) == 0 ? squared(left.toString()) : moved(left.toString());
+        right = draw(4) == 0 ? thinned(right) : right;
         for (char sign : (left + "=" + right).toCharArray()) {
             sign(sign);
         }
@@ -259,6 +260,19 @@ public final class ModelTest {
             made = made.substring(0, to) + made.substring(from);
         }
         return draw(4) == 0 ? made.replaceFirst("(.+)\\1", "$1") : made;
+    }
+
+    /** Some letter left out wherever it is, but for one place perhaps. */
+    private static String thinned(String word) {
+        char out = drawFrom("abcd");
+        int kept = draw(12);
+        StringBuilder made = new StringBuilder();
+        for (int at = 0; at < word.length(); at++) {
+            if (word.charAt(at) != out || at == kept) {
+                made.append(word.charAt(at));
+            }
+        }
+        return made.toString();
     }
 
     /** Some neighbours changed. */
