@@ -27,6 +27,7 @@ public final class EdgesOfMakingTest {
         promise5FourGenerators();
         promise5OneOfThemTwice();
         promise5RowIsEmptyThen();
+        promises1To54TheLastCall();
         Check.end();
     }
 
@@ -342,5 +343,22 @@ public final class EdgesOfMakingTest {
         Check.due("5 one number, the first of a new row", x.type(0), 1);
         Check.due("5 and the sign", x.wipe(), 2);
         Check.refused("5 an empty row is no second one", ILLEGAL, x::generator);
+    }
+
+    // ---- "An object is used for at most 512 calls after it has been made" ----
+
+    private static void promises1To54TheLastCall() {
+        for (int last = 0; last < 4; last++) {
+            Eggboxery x = Check.steps();
+            // Making took nine calls.
+            for (int call = 10; call < 512; call++) {
+                Check.due("6 the call " + call, x.size(), 4);
+            }
+            Object answer = last == 0 ? x.checksum() : last == 1 ? (Object) x.type(9) : last == 2
+                    ? Check.answerOf(() -> x.length(4)) : Check.answerOf(() -> x.begin('r', 4));
+            Object due = last == 0 ? Check.steps().checksum() : last == 1 ? (Object) 1 : last == 2
+                    ? "throws.IndexOutOfBoundsException" : "throws." + ILLEGAL;
+            Check.due("1 to 54, the call 512", answer, due);
+        }
     }
 }

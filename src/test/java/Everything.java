@@ -1,5 +1,7 @@
 import java.util.ArrayList;
 import java.util.List;
+import java.util.Set;
+import java.util.TreeSet;
 import java.util.function.Function;
 
 /**
@@ -10,6 +12,7 @@ final class Everything {
     /** Making takes fewer than a hundred calls, and each group is asked twice at most. */
     private static final int MOST_IN_GROUP = 190;
     private static final int SOME = 9;
+    private static final Set<Integer> PROMISES = new TreeSet<>();
 
     /** A call with its name. */
     record Ask(String name, Function<Eggboxery, Object> call) {
@@ -41,6 +44,11 @@ final class Everything {
         }
     }
 
+    /** The numbers of the promises of which a call was refused. */
+    static Set<Integer> promises() {
+        return PROMISES;
+    }
+
     /** How many elements there are, 0 if not all is known. */
     int size() {
         return size;
@@ -62,6 +70,7 @@ final class Everything {
 
     /** A call that is refused, and changes nothing: neither ahead of all else nor behind it. */
     void refused(String promise, String exception, String call, Function<Eggboxery, Object> asking) {
+        PROMISES.add(Integer.parseInt(promise.substring(0, promise.indexOf(' '))));
         String named = promise + " " + call + " of " + shop.name;
         Check.due(named, Check.answerOf(() -> asking.apply(shop.make())), "throws." + exception);
         for (List<Ask> group : askedTwice) {

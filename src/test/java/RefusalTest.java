@@ -67,6 +67,7 @@ public final class RefusalTest {
         test.promises44To45();
         test.promises46To49();
         test.promises50To53();
+        eachPromise();
         Check.end();
     }
 
@@ -79,6 +80,14 @@ public final class RefusalTest {
 
     private static int[] outside(int end) {
         return new int[] {-1, end, LEAST, GREATEST};
+    }
+
+    /** Each promise that has a Throws line had a call that was refused. */
+    private static void eachPromise() {
+        for (int promise = 1; promise <= 54; promise++) {
+            boolean isThrowing = promise != 1 && promise != 4 && promise != 54;
+            Check.due("a refused call of promise " + promise, Everything.promises().contains(promise), isThrowing);
+        }
     }
 
     /** What the bounds below go by. */
