@@ -688,7 +688,8 @@ public final class Eggboxery {
         private final int[] steps;
         private final int[] slots;
         private final int[] ofGenerators;
-        private final int[] products;
+        /** Eight products to a number, as each is less than 256: a run of many new objects has little room for each. */
+        private final long[] products;
         private final int[] omegas;
         private final int[] indices;
         private final int[] periods;
@@ -709,7 +710,7 @@ public final class Eggboxery {
             steps = new int[MOST_ELEMENTS * MOST_GENERATORS];
             slots = new int[SLOTS];
             ofGenerators = new int[MOST_GENERATORS];
-            products = new int[MOST_ELEMENTS * MOST_ELEMENTS];
+            products = new long[MOST_ELEMENTS * MOST_ELEMENTS / 8];
             omegas = new int[MOST_ELEMENTS];
             indices = new int[MOST_ELEMENTS];
             periods = new int[MOST_ELEMENTS];
@@ -777,7 +778,14 @@ public final class Eggboxery {
         int times(int left, int right) {
             boolean areInside = left >= 0 && left < count && right >= 0 && right < count;
             int at = left * MOST_ELEMENTS + right;
-            return areInside && at < products.length ? products[at] : 0;
+            return areInside && at >> 3 < products.length ? (int) (products[at >> 3] >> (at & 7) * 8) & 255 : 0;
+        }
+
+        private void putProduct(int left, int right, int made) {
+            int at = left * MOST_ELEMENTS + right;
+            if (at >= 0 && at >> 3 < products.length) {
+                products[at >> 3] |= (long) made << (at & 7) * 8;
+            }
         }
 
         private int stepped(int element, int number) {
@@ -852,11 +860,12 @@ public final class Eggboxery {
         }
 
         private void fillProducts() {
+            Arrays.fill(products, 0L);
             for (int left = 0; left < count && left < MOST_ELEMENTS; left++) {
                 for (int right = 0; right < count && right < MOST_ELEMENTS; right++) {
                     int prefix = prefixes[right];
                     int ahead = prefix < 0 ? left : times(left, prefix);
-                    products[left * MOST_ELEMENTS + right] = stepped(ahead, lasts[right]);
+                    putProduct(left, right, stepped(ahead, lasts[right]));
                 }
             }
         }
@@ -1633,7 +1642,7 @@ public final class Eggboxery {
             labels = new int[MOST_ELEMENTS];
             ones = new int[MOST_ELEMENTS];
             twos = new int[MOST_ELEMENTS];
-            images = new int[MOST_ELEMENTS];
+            images = new int[MOST_FOR_ENDOMORPHISMS];
         }
 
         private int total() {
