@@ -329,6 +329,11 @@ public final class EdgesOfBoxesTest {
         Check.due("29 above them it is higher", x.height(0), 4);
         Check.due("29 than the group", x.height(1), 2);
         Check.due("29 which is counted", x.weight(), 1);
+        // And below a group that is above both.
+        Eggboxery y = Check.maps(6, Check.g(0, 1, 2, 3, 5, 4), Check.g(1, 2, 3, -1, -1, -1),
+                Check.g(-1, -1, -1, -1, 5, 4));
+        Check.due("29 the longest row to the group above", y.height(0), 5);
+        Check.due("29 the shorter one has two groups", y.weight(), 2);
     }
 
     // ---- 30: "'i' the identity, 'z' the zero, 'k' the lowest element of the least class by J" ----

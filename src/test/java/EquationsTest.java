@@ -209,6 +209,7 @@ public final class EquationsTest {
         Check.due("40 p cba is not cab", sameOf("cba=cab", 'p'), false);
         Check.due("40 p aab is not aba", sameOf("aab=aba", 'p'), false);
         Check.due("40 p four rows", sameOf("dcba=dcab", 'p'), false);
+        Check.due("40 p what goes into the fourth row", sameOf("dcba=cba", 'p'), false);
         Check.due("40 p four rows and more", sameOf("dcbaa=dcaba", 'p'), true);
         Check.due("40 p two rows", sameOf("bdac=badc", 'p'), true);
         Check.due("40 p two other rows", sameOf("bdac=cdab", 'p'), false);

@@ -187,6 +187,9 @@ public final class PointsTest {
         Eggboxery b = Check.maps(2, Check.g(0, 1), Check.g(1, 1));
         b.automaton(0, 2);
         Check.due("47 what has b", kindsOf(b), "abc");
+        Eggboxery n = Check.maps(2, Check.g(-1, -1), Check.g(0, 1));
+        n.automaton(0, 1);
+        Check.due("47 a zero, and another idempotent", kindsOf(n), "abc");
         Eggboxery all = Check.allMapsOfThree();
         all.automaton(0, 1);
         Check.due("47 all maps of three points", kindsOf(all), "");
